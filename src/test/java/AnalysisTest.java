@@ -121,6 +121,18 @@ public final class AnalysisTest {
         }
         Check.due("27: two rings share a task", x.cycles(), 2);
         Check.due("24: all", x.onCycles(), 15);
+        ProbeLocks longest = holders(1, 1, 1, 1, 1, 1, 1, 1, 1, 1);
+        for (int t = 0; t < 10; t++) {
+            longest.request(t, (t + 3) % 10);
+        }
+        Check.due("26: the longest", longest.shortestCycle(4), 10);
+        Check.due("27: the longest", longest.cycles(), 1);
+        Check.due("24: asked first of all", shortAndLong(9, 2, 3, 4).onCycles(), 15);
+        Check.due("25: asked first of all", shortAndLong(9, 2, 3, 4).stuck(), 15);
+        Check.due("26: asked first of all", shortAndLong(9, 2, 3, 4).shortestCycle(3), 3);
+        Check.due("27: asked first of all", shortAndLong(9, 2, 3, 4).cycles(), 2);
+        longest.abort(4);
+        Check.due("26: broken", longest.shortestCycle(5), -1);
     }
 
     private static void victimsByCost() {
@@ -133,6 +145,27 @@ public final class AnalysisTest {
     private static void victimsByNumber() {
         Check.due("29: of the same cost the fewest", shortAndLong(5, 2, 3, 4).bestVictims(), 1);
         Check.due("29: one cheaper by 1 in all", shortAndLong(6, 2, 3, 4).bestVictims(), 6);
+        Check.due("29: the fewest has the greatest mask", hubLast(5, 2, 3).bestVictims(), 4);
+        Check.due("29: fewer, but dearer", hubLast(6, 2, 3).bestVictims(), 3);
+    }
+
+    /** 2 waits for 0 and 1, which both wait for 2. */
+    private static ProbeLocks hubLast(int hubCost, int... costs) {
+        ProbeLocks x = new ProbeLocks();
+        x.addResource(ProbeLocks.NONE);
+        x.addResource(0);
+        x.addResource(0);
+        x.addResource(ProbeLocks.NONE);
+        x.create(costs[0]);
+        x.create(costs[1]);
+        x.create(hubCost);
+        x.request(0, 1);
+        x.request(1, 2);
+        x.request(2, 3);
+        x.request(0, 3);
+        x.request(1, 3);
+        x.request(2, 0);
+        return x;
     }
 
     private static void victimsByMask() {

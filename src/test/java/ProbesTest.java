@@ -7,6 +7,7 @@ public final class ProbesTest {
         hopsRunOut();
         staleMessages();
         staleByNumber();
+        staleInOneDelivery();
         endsOnRunningTask();
         endsOnPath();
         victims();
@@ -215,6 +216,24 @@ public final class ProbesTest {
         told("by the number alone, not stale", x, 1, 0, 0, 0, 0, 0);
     }
 
+    /** Both messages are under way when the first one breaks the ring. */
+    private static void staleInOneDelivery() {
+        ProbeLocks x = ring(2);
+        x.probe(0);
+        x.probe(1);
+        Check.due("20: deliver", x.deliver(99), 4);
+        told("one found, the other one stale", x, 4, 0, 1, 0, 1, 0, 1, 3);
+        latest("the first one found it", x, 3, 1, 0);
+        ProbeLocks crowd = crowd(3);
+        crowd.setBudget(2);
+        crowd.probe(0);
+        crowd.probe(1);
+        // 0 finds {0, 1} and aborts 0; what is under way over 0 is stale; 1 and 2 are still in a ring.
+        crowd.deliver(99);
+        told("two found, the six between them stale", crowd, 12, 0, 6, 0, 2, 0, 2, 4);
+        latest("the second one", crowd, 6, 1, 1);
+    }
+
     private static void endsOnRunningTask() {
         ProbeLocks x = new ProbeLocks();
         x.addResource(ProbeLocks.NONE);
@@ -246,7 +265,7 @@ public final class ProbesTest {
         told("no hops left when it meets its path", x, 6, 0, 0, 0, 0, 0);
     }
 
-    /** Costs 5, 3, 3, 9; held resources 3, 2, 1, 1. */
+    /** Costs 5, 3, 3, 9; held resources 1, 1, 2, 3. */
     private static ProbeLocks forVictims(int rule) {
         ProbeLocks x = new ProbeLocks();
         int[] costs = {5, 3, 3, 9};
@@ -257,9 +276,9 @@ public final class ProbesTest {
             x.create(costs[t]);
             x.request(t, t);
         }
-        x.request(0, 4);
-        x.request(0, 5);
-        x.request(1, 6);
+        x.request(3, 4);
+        x.request(3, 5);
+        x.request(2, 6);
         for (int t = 0; t < 4; t++) {
             x.request(t, (t + 1) % 4);
         }
@@ -272,7 +291,7 @@ public final class ProbesTest {
     private static void victims() {
         latest("least cost, the youngest of two", forVictims(0), 15, 2, 2);
         latest("the youngest", forVictims(1), 15, 3, 2);
-        latest("fewest held, the youngest of two", forVictims(2), 15, 3, 2);
+        latest("fewest held, the youngest of two", forVictims(2), 15, 1, 2);
         ProbeLocks x = forVictims(0);
         Check.due("28: undo does not change it", x.undo() + x.latest(1), 4 + 2);
 
@@ -309,8 +328,19 @@ public final class ProbesTest {
         told("the delivered one does not count", x, 41, 22, 0, 0);
         message("the first of those sent on", x, 39, 0, 0, 2, 2, 3);
         x.undo();
-        Check.due("20: undone", x.message(39, 3), 1);
+        message("undone, the last", x, 39, 4, 3, 3, 1, 16);
+        message("undone, the first, whose row was used again", x, 0, 0, 1, 3, 1, 1);
         told("counts are not undone", x, 41, 22, 0, 0);
+
+        ProbeLocks y = crowd(10);
+        y.setBudget(1);
+        y.probe(5);
+        Check.script(y, "d1;p1;p1;p1;p1;");
+        y.run();
+        message("the row of the delivered one is used again", y, 39, 1, 5, 0, 1, 2);
+        y.undo();
+        Check.due("35: undone", y.messages(), 9);
+        message("undone, the path too", y, 0, 5, 0, 0, 1, 32);
     }
 
     /** 3 waits for 2, which waits for 1, which waits for 0, which runs: spent, but nothing is missed. */

@@ -6,6 +6,7 @@ public final class TasksTest {
         grantsAndWaits();
         treeRequests();
         waitOrDie();
+        ageIsNotTheNumber();
         woundOrWait();
         woundAndWait();
         release();
@@ -172,6 +173,27 @@ public final class TasksTest {
         Check.due("23: aborted itself alone", between.told(6), 1);
     }
 
+    /** A new task 0 is younger than task 1: the age goes by the serial number. */
+    private static void ageIsNotTheNumber() {
+        for (int policy = 1; policy <= 2; policy++) {
+            ProbeLocks x = manager(2);
+            x.finish(0);
+            x.create(1);
+            x.setPolicy(policy);
+            x.request(0, 3);
+            Check.due("15: 1 is older than 0", x.wouldHappen(1, 3), policy == 1 ? 1 : 3);
+            Check.due("7: 1 is older than 0", x.request(1, 3), policy == 1 ? 1 : 0);
+            Check.due("7: the younger one", x.task(0, 0), policy == 1 ? 0 : 2);
+            ProbeLocks y = manager(2);
+            y.finish(0);
+            y.create(1);
+            y.setPolicy(policy);
+            y.request(1, 3);
+            Check.due("15: 0 is younger than 1", y.wouldHappen(0, 3), policy == 1 ? 2 : 1);
+            Check.due("7: 0 is younger than 1", y.request(0, 3), policy == 1 ? 2 : 1);
+        }
+    }
+
     private static void woundOrWait() {
         ProbeLocks x = manager(4);
         x.setPolicy(2);
@@ -253,6 +275,12 @@ public final class TasksTest {
         Check.due("14: undone", x.waiting(1), 2);
         Check.due("23: counts are not undone", x.told(7), 4);
         Check.due("23: finishing aborts nobody", x.told(6), 0);
+        x.finish(0);
+        x.create(77);
+        row("a new task in its place", x, 0, 0, 77, 4);
+        x.undo();
+        x.undo();
+        row("undone, the old one is back", x, 0, 0, 1, 1, 10, -1, 0, -1);
     }
 
     private static void abort() {
