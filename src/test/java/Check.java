@@ -7,15 +7,21 @@ final class Check {
 
     private static int asked = 0;
     private static int wrong = 0;
+    private static String about = "";
 
     private Check() {
+    }
+
+    /** What the next answers are about; it is told with each that is wrong. */
+    static void about(String subject) {
+        about = subject + ": ";
     }
 
     static void due(String what, long got, long want) {
         asked++;
         if (got != want) {
             wrong++;
-            System.out.println(what + " answered " + got + ", due is " + want);
+            System.out.println(about + what + " answered " + got + ", due is " + want);
         }
     }
 
@@ -27,8 +33,44 @@ final class Check {
         asked++;
         if (!got.equals(want)) {
             wrong++;
-            System.out.println(what + " answered " + got + ", due is " + want);
+            System.out.println(about + what + " answered " + got + ", due is " + want);
         }
+    }
+
+    /** The first properties of a task, in the order of task(). */
+    static void task(String what, ProbeLocks x, int task, int... due) {
+        for (int i = 0; i < due.length; i++) {
+            due(what + ", task(" + task + ", " + i + ")", x.task(task, i), due[i]);
+        }
+    }
+
+    /** The first properties of a message, in the order of message(). */
+    static void message(String what, ProbeLocks x, int k, int... due) {
+        for (int i = 0; i < due.length; i++) {
+            due(what + ", message(" + k + ", " + i + ")", x.message(k, i), due[i]);
+        }
+    }
+
+    /** The first counts, in the order of told(). */
+    static void told(String what, ProbeLocks x, int... due) {
+        for (int i = 0; i < due.length; i++) {
+            due(what + ", told(" + i + ")", x.told(i), due[i]);
+        }
+    }
+
+    /** The deadlock that was found last. */
+    static void latest(String what, ProbeLocks x, int ring, int victim, int initiator) {
+        due(what + ", latest(0)", x.latest(0), ring);
+        due(what + ", latest(1)", x.latest(1), victim);
+        due(what + ", latest(2)", x.latest(2), initiator);
+    }
+
+    /** The tasks that wait, in their order, and that there is none behind them. */
+    static void order(String what, ProbeLocks x, int... due) {
+        for (int k = 0; k < due.length; k++) {
+            due(what + ", waiting(" + k + ")", x.waiting(k), due[k]);
+        }
+        due(what + ", waiting(" + due.length + ")", x.waiting(due.length), ProbeLocks.NONE);
     }
 
     /** The answer, or the very class that is thrown: a subclass, as the machine throws, differs. */
