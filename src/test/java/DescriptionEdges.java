@@ -612,6 +612,14 @@ final class DescriptionEdges {
         Check.due("the policy is that of the last record, not of a new object", x.setPolicy(0), 1);
         x.undo();
         Check.due("and is restored", x.setPolicy(0), 1);
+        ProbeLocks mail = Make.crowd(10);
+        Make.on(mail, "B1 p9 p9 p9 p8 d5 B3 p1 u u u");
+        Check.due("all messages", mail.messages(), 36);
+        for (int k = 0; k < 36; k++) {
+            int initiator = k < 27 ? 9 : 8;
+            int target = k == 35 ? 9 : k % 9;
+            Check.message("those that were delivered or lost their place", mail, k, initiator, target, 0, 1, set(initiator));
+        }
     }
 
     private static void fiveRecords() {

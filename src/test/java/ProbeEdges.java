@@ -179,6 +179,31 @@ final class ProbeEdges {
         staleOnes("f3", 1);
         staleOnes("a2 a3", 2);
         staleOnes("a3 a4", 2);
+        longPath();
+    }
+
+    /**
+     * Each of 0 to 3 waits for the next one and for 5, by a root of its own with a child for each of
+     * the two; under way are messages over 0, 1, 2 and 3 to 4 and to 5. One link is broken at a time.
+     */
+    private static void longPath() {
+        String setup = "t1 t1 t1 t1 t1 t1";
+        for (int t = 0; t < 4; t++) {
+            int root = 3 * t;
+            setup += " r-1 r" + root + " r" + root + " q" + (t + 1) + "," + (root + 1) + " q5," + (root + 2);
+        }
+        setup += " q0,0 q1,3 q2,6 q3,9 B9 p0 d6";
+        for (int link = -1; link < 4; link++) {
+            ProbeLocks x = Make.of(setup);
+            Check.message("to 4", x, 0, 0, 4, 5, 4, set(0, 1, 2, 3));
+            Check.message("to 5", x, 1, 0, 5, 5, 4, set(0, 1, 2, 3));
+            if (link >= 0) {
+                x.release(link + 1, 3 * link + 1);
+            }
+            Check.due("they wait still", x.task(0, 0) + x.task(1, 0) + x.task(2, 0) + x.task(3, 0), 4);
+            Check.due("two", x.deliver(99), 2);
+            Check.due("stale by link " + link, x.told(2), link < 0 ? 0 : link < 3 ? 2 : 1);
+        }
     }
 
     private static void found() {

@@ -534,8 +534,10 @@ final class PromiseEdges {
                 Check.due("in a ring of " + length, x.shortestCycle(t), length);
             }
             x.abort(length / 2);
+            ProbeLocks crowd = Make.crowd(length);
             for (int t = 0; t < length; t++) {
                 Check.due("in none", x.shortestCycle(t), NONE);
+                Check.due("in many", crowd.shortestCycle(t), 2);
             }
         }
         // 0 waits for 1 and 3; 1 for 2, 2 for 0; 3 for 0; 4 waits for 0; 5 runs.
@@ -631,6 +633,11 @@ final class PromiseEdges {
         // 0 and 1 wait for the root; when 2 ends, 0 still waits for 1 and 1 for 0.
         ProbeLocks tree = Make.of("r-1 r0 r0 r0 t1 t1 t1 q0,1 q1,2 q2,3 q0,0 q1,0");
         Check.due("two are left in a ring", tree.wouldEnd(), 1);
+        // 0 and 1 are in a ring, and 0 holds the root: 3 waits below it, 4 above what 1 holds.
+        ProbeLocks near = Make.of("r-1 r0 r-1 r2 t1 t1 t1 t1 t1 q0,0 q1,3 q0,3 q1,0 q3,1 q4,2");
+        Check.due("only the one that is free; those that wait below and above do not come to run", near.wouldEnd(), 1);
+        near.abort(1);
+        Check.due("all but the aborted one", near.wouldEnd(), 4);
     }
 
     // ---- scripts, undo

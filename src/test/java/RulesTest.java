@@ -1,6 +1,8 @@
 import com.sun.source.tree.AssertTree;
+import com.sun.source.tree.CatchTree;
 import com.sun.source.tree.ClassTree;
 import com.sun.source.tree.CompilationUnitTree;
+import com.sun.source.tree.ImportTree;
 import com.sun.source.tree.LambdaExpressionTree;
 import com.sun.source.tree.LineMap;
 import com.sun.source.tree.MemberReferenceTree;
@@ -12,6 +14,7 @@ import com.sun.source.tree.Tree;
 import com.sun.source.tree.TryTree;
 import com.sun.source.util.JavacTask;
 import com.sun.source.util.SourcePositions;
+import com.sun.source.util.TreePath;
 import com.sun.source.util.TreePathScanner;
 import com.sun.source.util.Trees;
 import java.io.IOException;
@@ -37,9 +40,15 @@ import javax.tools.ToolProvider;
 public final class RulesTest extends TreePathScanner<Void, Void> {
     private static final Path PROGRAM = Path.of("src/main/java/ProbeLocks.java");
     private static final Path DOCUMENT = Path.of("../shared/DOC.md");
-    private static final Set<String> LIBRARY = Set.of("java.lang.Integer.bitCount", "java.lang.System.arraycopy");
-    private static final Set<String> THROWN = Set.of("java.lang.IndexOutOfBoundsException",
-            "java.lang.IllegalArgumentException", "java.lang.IllegalStateException");
+    private static final String LIBRARY = "java\\.lang\\.("
+            + "String\\.(length|charAt|isEmpty|equals|indexOf|substring|toCharArray)"
+            + "|StringBuilder\\.(append|charAt|setCharAt|setLength|deleteCharAt|reverse|length|toString)"
+            + "|(Integer|Long|Math)\\.(?!\\w*Exact)\\w+|System\\.arraycopy)"
+            + "|java\\.util\\.(Array)?List(<.*>)?\\.(add|get|set|remove|size|isEmpty|clear|of)"
+            + "|java\\.util\\.Arrays\\.(copyOf|copyOfRange|fill)|Array\\.clone";
+    private static final String EXCEPTION = "java\\.lang\\.(IllegalState|IllegalArgument|IndexOutOfBounds|Arithmetic"
+            + "|UnsupportedOperation|Runtime)Exception|java\\.util\\.NoSuchElementException";
+    private static final String MADE = EXCEPTION + "|java\\.lang\\.(String|StringBuilder)|java\\.util\\.ArrayList(<.*>)?";
 
     private final Trees trees;
     private final SourcePositions positions;
@@ -118,10 +127,12 @@ public final class RulesTest extends TreePathScanner<Void, Void> {
         for (Field f : ProbeLocks.class.getDeclaredFields()) {
             boolean isPrivate = Modifier.isPrivate(f.getModifiers());
             Check.due("rule 1: " + f, isPrivate || f.getName().equals("NONE"), true);
+            Check.due("rule 5: " + f, !Modifier.isStatic(f.getModifiers()) || Modifier.isFinal(f.getModifiers()), true);
         }
         for (Class<?> c : ProbeLocks.class.getDeclaredClasses()) {
             int modifiers = c.getModifiers();
-            Check.due("rule 1: " + c, Modifier.isPrivate(modifiers) && Modifier.isStatic(modifiers), true);
+            boolean isOpen = Modifier.isPublic(modifiers) || Modifier.isProtected(modifiers);
+            Check.due("rule 1: " + c, !isOpen && Modifier.isStatic(modifiers), true);
             long fields = Arrays.stream(c.getDeclaredFields())
                     .filter(f -> !Modifier.isStatic(f.getModifiers())).count();
             Check.due("rule 11: fields of " + c, fields <= 20, true);
@@ -151,7 +162,7 @@ public final class RulesTest extends TreePathScanner<Void, Void> {
         LineMap lines = unit.getLineMap();
         long first = lines.getLineNumber(Math.max(0, positions.getStartPosition(unit, tree)));
         long last = lines.getLineNumber(Math.max(0, positions.getEndPosition(unit, tree)));
-        Check.due("rule 11: lines of " + tree.getName(), last - first < 60, true);
+        Check.due("rule 11: lines of " + tree.getName(), last - first <= 60, true);
         Check.due("rule 11: parameters of " + tree.getName(), tree.getParameters().size() <= 7, true);
         super.visitMethod(tree, nothing);
         method = null;
@@ -164,7 +175,7 @@ public final class RulesTest extends TreePathScanner<Void, Void> {
         String name = callee.getEnclosingElement() + "." + callee.getSimpleName();
         boolean isOwn = name.startsWith("ProbeLocks");
         boolean isSuper = callee.getSimpleName().contentEquals("<init>");
-        Check.due("rule 4: " + name, isOwn || isSuper || LIBRARY.contains(name), true);
+        Check.due("rule 4: " + name, isOwn || isSuper || name.matches(LIBRARY), true);
         if (method != null && !isSuper) {
             calls.get(method).add(callee);
         }
@@ -174,7 +185,7 @@ public final class RulesTest extends TreePathScanner<Void, Void> {
     @Override
     public Void visitNewClass(NewClassTree tree, Void nothing) {
         String name = trees.getElement(getCurrentPath()).getEnclosingElement().toString();
-        Check.due("rule 4: new " + name, name.startsWith("ProbeLocks") || THROWN.contains(name), true);
+        Check.due("rule 4: new " + name, name.startsWith("ProbeLocks") || name.matches(MADE), true);
         return super.visitNewClass(tree, nothing);
     }
 
@@ -190,11 +201,20 @@ public final class RulesTest extends TreePathScanner<Void, Void> {
         return null;
     }
 
-    /** The rules allow some; this program asks before it acts, and needs none. */
     @Override
     public Void visitTry(TryTree tree, Void nothing) {
-        refuse("rule 6: nothing is caught here", tree);
-        return null;
+        if (tree.getFinallyBlock() != null || !tree.getResources().isEmpty()) {
+            refuse("rule 6: no finally, no resources", tree);
+        }
+        return super.visitTry(tree, nothing);
+    }
+
+    @Override
+    public Void visitCatch(CatchTree tree, Void nothing) {
+        Tree type = tree.getParameter().getType();
+        Element caught = trees.getElement(TreePath.getPath(unit, type));
+        Check.due("rule 6: catches " + caught, caught != null && caught.toString().matches(EXCEPTION), true);
+        return super.visitCatch(tree, nothing);
     }
 
     @Override
@@ -210,7 +230,11 @@ public final class RulesTest extends TreePathScanner<Void, Void> {
     }
 
     private void wholeFile() {
-        Check.due("rule 3: imports", unit.getImports().size(), 0);
+        for (ImportTree i : unit.getImports()) {
+            boolean isListed = i.getQualifiedIdentifier().toString()
+                    .matches("java\\.util\\.(ArrayList|Arrays|Iterator|List|NoSuchElementException)");
+            Check.due("rule 4: " + i, isListed, true);
+        }
         Check.due("rule 3: package", unit.getPackageName() == null, true);
         Check.due("rule 11: classes", classes <= 12, true);
         int deepest = 0;
@@ -220,10 +244,9 @@ public final class RulesTest extends TreePathScanner<Void, Void> {
         Check.due("rule 11: calls go at most eight deep, not " + deepest, deepest <= 8, true);
     }
 
-    /** How many calls stand open at once, this one with them; the library's own count one. */
+    /** How many calls stand open at once, this one with them; the library's own count one, and recursion none. */
     private int depth(Element m, Set<Element> open) {
         if (!open.add(m)) {
-            Check.due("rule 8: " + m + " calls itself, which this program does without", false, true);
             return 0;
         }
         int deepest = 0;
