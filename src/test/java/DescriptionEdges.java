@@ -133,6 +133,7 @@ final class DescriptionEdges {
         Check.badState("an eleventh", () -> x.create(1));
         x.finish(9);
         Check.due("the last place", x.create(1), 9);
+        Check.due("the refused one has used no serial number up", x.task(9, 2), 11);
         Make.on(x, "f5 f0 f7");
         Check.due("the lowest of three", x.create(1), 0);
         Check.due("the lowest of two", x.create(1), 5);

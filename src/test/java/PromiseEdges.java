@@ -593,6 +593,7 @@ final class PromiseEdges {
         Check.due("no cycle", Make.of("r-1 t1 t1 q0,0 q1,0").bestVictims(), 0);
         Check.due("the least cost", Make.ring(5, 4, 3, 6).bestVictims(), set(2));
         Check.due("the smallest mask", Make.ring(9, 4, 4, 4).bestVictims(), set(1));
+        Check.due("the last of ten", Make.ring(9, 9, 9, 9, 9, 9, 9, 9, 9, 8).bestVictims(), set(9));
         Check.due("the dearest costs", Make.ring(99, 99, 99, 99, 99, 99, 99, 99, 99, 99).bestVictims(), set(0));
         Check.due("nine of ten", Make.crowd(10).bestVictims(), 511);
         // The hub waits for both others, which wait for it.
@@ -790,12 +791,18 @@ final class PromiseEdges {
     }
 
     private static void looked(String name, RefusedEdges.Use call) {
-        ProbeLocks[] x = {Make.rich(), Make.rich(), Make.full(), Make.full()};
-        long first = call.on(x[0]);
-        Check.due(name + " answers the same again", call.on(x[0]), first);
-        Check.due(name + " changes nothing", View.back(x[0]), View.back(x[1]));
-        call.on(x[2]);
-        Check.due(name + " changes nothing for later", View.onward(x[2]), View.onward(x[3]));
+        looked(name, Make::rich, call);
+        looked(name, Make::full, call);
+    }
+
+    private static void looked(String name, RefusedEdges.Setup setup, RefusedEdges.Use call) {
+        ProbeLocks x = setup.make();
+        ProbeLocks y = setup.make();
+        long first = call.on(x);
+        Check.due(name + " answers the same again", call.on(x), first);
+        call.on(y);
+        Check.due(name + " changes nothing", View.back(x), View.back(setup.make()));
+        Check.due(name + " changes nothing for later", View.onward(y), View.onward(setup.make()));
     }
 
     /** No promise of a question says that it is undoable, or that it changes anything. */
@@ -825,12 +832,16 @@ final class PromiseEdges {
         looked("wouldEnd()", x -> x.wouldEnd());
         looked("fault()", x -> x.fault());
         looked("checksum()", x -> x.checksum());
-        ProbeLocks running = Make.rich();
-        for (int r = 0; r < 6; r++) {
-            String before = View.of(running);
-            running.wouldHappen(0, r);
-            running.wouldHappen(5, r);
-            Check.due("wouldHappen changes nothing", View.of(running), before);
+        looked("wouldEnd() when somebody ends", () -> Make.of("r-1 t1 t1 q0,0 q1,0"), x -> x.wouldEnd());
+        for (int resource = 0; resource < 6; resource++) {
+            int r = resource;
+            looked("wouldHappen(0, " + r + ")", Make::rich, x -> x.wouldHappen(0, r));
+            looked("wouldHappen(5, " + r + ")", Make::rich, x -> x.wouldHappen(5, r));
+        }
+        for (int policy = 0; policy <= 2; policy++) {
+            String setup = "r-1 t1 t1 t1 q1,0 P" + policy;
+            looked("an older one, policy " + policy, () -> Make.of(setup), x -> x.wouldHappen(0, 0));
+            looked("a younger one, policy " + policy, () -> Make.of(setup), x -> x.wouldHappen(2, 0));
         }
     }
 }

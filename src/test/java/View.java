@@ -26,17 +26,26 @@ final class View {
         return s + next(x);
     }
 
-    /** Goes on: the text is ended and run, the messages are delivered; uses the manager up. */
+    /** Goes on: the text is ended and run, the messages are delivered, all is undone; uses the manager up. */
     static String onward(ProbeLocks x) {
         StringBuilder s = new StringBuilder(of(x));
         s.append("type ").append(Check.outcome(() -> x.type(';'))).append(' ').append(of(x));
         s.append("deliver ").append(Check.outcome(() -> x.deliver(99))).append(' ').append(of(x));
         s.append("run ").append(Check.outcome(() -> x.run())).append(' ').append(of(x));
-        return s + next(x);
+        s.append(next(x));
+        for (int i = 0; i < 6; i++) {
+            s.append("undo ").append(Check.outcome(() -> x.undo())).append(" sum ").append(x.checksum()).append('\n');
+        }
+        return s.toString();
     }
 
-    /** The next serial number shows only in a task that is made with it. */
+    /** The next serial number shows only in a task that is made with it; the last of ten makes room for it. */
     private static String next(ProbeLocks x) {
+        if ((x.tasks() >> 9 & 1) != 0) {
+            Check.outcome(() -> x.abort(9));
+            Check.outcome(() -> x.restart(9));
+            Check.outcome(() -> x.finish(9));
+        }
         String made = Check.outcome(() -> x.create(1));
         String serials = "";
         for (int t = 0; t < 10; t++) {
