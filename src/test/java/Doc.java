@@ -14,6 +14,7 @@ import java.util.Map;
 final class Doc {
     private static final Path DOCUMENT = Path.of("../shared/DOC.md");
     private static final String DESCRIPTION = "Description";
+    private static final String FACE = "The public face";
     private static final Map<String, List<String>> SENTENCES = read();
     private static final Map<String, List<String>> QUOTES = new LinkedHashMap<>();
 
@@ -39,9 +40,12 @@ final class Doc {
         return all;
     }
 
-    /** Headings in capitals, signatures, rules between groups and "a task" say nothing that could be broken. */
+    /**
+     * Headings in capitals, signatures, rules between groups and "a task" say nothing that could be
+     * broken; the printed face is compared line by line in RulesTest.
+     */
     private static boolean isSaid(String section, String line) {
-        boolean isHere = section.equals(DESCRIPTION) || section.startsWith("Promise ");
+        boolean isHere = !section.isEmpty() && !section.equals(FACE);
         boolean isMark = line.isEmpty() || line.matches("[A-Z]+") || line.startsWith("`") || line.startsWith("----");
         return isHere && !isMark && !line.matches("- `[a-z]+`: a (task|resource)");
     }
@@ -52,15 +56,16 @@ final class Doc {
 
     /** What follows is about these sentences of the Description. */
     static void description(String... sentences) {
-        quote(DESCRIPTION, sentences);
+        section(DESCRIPTION, sentences);
     }
 
     /** What follows is about these sentences of a promise. */
     static void promise(int number, String... sentences) {
-        quote("Promise " + number, sentences);
+        section("Promise " + number, sentences);
     }
 
-    private static void quote(String section, String... sentences) {
+    /** What follows is about these sentences of a section, named as its heading is. */
+    static void section(String section, String... sentences) {
         String all = String.join(" ", SENTENCES.getOrDefault(section, List.of()));
         for (String sentence : sentences) {
             Check.about(section);
@@ -72,7 +77,7 @@ final class Doc {
 
     static void everySentenceIsQuoted() {
         Check.about("every sentence has a test");
-        Check.due("sections", SENTENCES.size(), 37);
+        Check.due("sections", SENTENCES.size(), 39);
         SENTENCES.forEach((section, sentences) -> {
             List<String> quotes = QUOTES.getOrDefault(section, List.of());
             for (String sentence : sentences) {

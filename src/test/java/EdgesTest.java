@@ -1,6 +1,7 @@
-/** Every sentence of the Description and of the promises at its edges, quoted as the document has it. */
+/** Every sentence of the document at its edges, quoted as the document has it. */
 public final class EdgesTest {
     public static void main(String[] args) {
+        LifeEdges.all();
         DescriptionEdges.all();
         ProbeEdges.all();
         PromiseEdges.all();
