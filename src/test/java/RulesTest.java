@@ -1,17 +1,24 @@
 import com.sun.source.tree.AssertTree;
+import com.sun.source.tree.BinaryTree;
 import com.sun.source.tree.CatchTree;
 import com.sun.source.tree.ClassTree;
 import com.sun.source.tree.CompilationUnitTree;
+import com.sun.source.tree.DoWhileLoopTree;
+import com.sun.source.tree.ExpressionTree;
+import com.sun.source.tree.ForLoopTree;
 import com.sun.source.tree.ImportTree;
 import com.sun.source.tree.LambdaExpressionTree;
 import com.sun.source.tree.LineMap;
+import com.sun.source.tree.LiteralTree;
 import com.sun.source.tree.MemberReferenceTree;
 import com.sun.source.tree.MethodInvocationTree;
 import com.sun.source.tree.MethodTree;
 import com.sun.source.tree.NewClassTree;
 import com.sun.source.tree.SynchronizedTree;
+import com.sun.source.tree.ThrowTree;
 import com.sun.source.tree.Tree;
 import com.sun.source.tree.TryTree;
+import com.sun.source.tree.WhileLoopTree;
 import com.sun.source.util.JavacTask;
 import com.sun.source.util.SourcePositions;
 import com.sun.source.util.TreePath;
@@ -33,6 +40,8 @@ import java.util.Set;
 import java.util.TreeSet;
 import java.util.stream.Collectors;
 import javax.lang.model.element.Element;
+import javax.lang.model.type.TypeKind;
+import javax.lang.model.type.TypeMirror;
 import javax.tools.JavaCompiler;
 import javax.tools.ToolProvider;
 
@@ -215,6 +224,53 @@ public final class RulesTest extends TreePathScanner<Void, Void> {
         Element caught = trees.getElement(TreePath.getPath(unit, type));
         Check.due("rule 6: catches " + caught, caught != null && caught.toString().matches(EXCEPTION), true);
         return super.visitCatch(tree, nothing);
+    }
+
+    @Override
+    public Void visitThrow(ThrowTree tree, Void nothing) {
+        boolean isWritten = tree.getExpression() instanceof NewClassTree made
+                && made.getArguments().stream().allMatch(a -> a instanceof LiteralTree);
+        boolean isInMethod = method != null && !method.getSimpleName().contentEquals("<init>");
+        if (!isWritten || !isInMethod) {
+            refuse("rule 6: throw new E() or E(\"a written text\"), in no constructor", tree);
+        }
+        return super.visitThrow(tree, nothing);
+    }
+
+    @Override
+    public Void visitBinary(BinaryTree tree, Void nothing) {
+        TypeMirror type = trees.getTypeMirror(getCurrentPath());
+        boolean isText = tree.getKind() == Tree.Kind.PLUS && type.getKind() == TypeKind.DECLARED;
+        if (isText) {
+            refuse("rule 10: texts are not joined by +", tree);
+        }
+        return super.visitBinary(tree, nothing);
+    }
+
+    /** Whether the end really comes is for the reader; a loop that names none is refused here. */
+    private void needsEnd(ExpressionTree condition, Tree loop) {
+        String asked = condition == null ? "true" : condition.toString().replaceAll("[() ]", "");
+        if (asked.equals("true")) {
+            refuse("rule 9: the loop's own lines show its end", loop);
+        }
+    }
+
+    @Override
+    public Void visitForLoop(ForLoopTree tree, Void nothing) {
+        needsEnd(tree.getCondition(), tree);
+        return super.visitForLoop(tree, nothing);
+    }
+
+    @Override
+    public Void visitWhileLoop(WhileLoopTree tree, Void nothing) {
+        needsEnd(tree.getCondition(), tree);
+        return super.visitWhileLoop(tree, nothing);
+    }
+
+    @Override
+    public Void visitDoWhileLoop(DoWhileLoopTree tree, Void nothing) {
+        needsEnd(tree.getCondition(), tree);
+        return super.visitDoWhileLoop(tree, nothing);
     }
 
     @Override
